@@ -642,8 +642,8 @@ public final class RopesTieThemselves {
             if ((own == PERSON || isBaker) && ofDay >= 12 && ofDay <= 17) {
                 heft += figure[thing];
             }
-            if (isBaker && ofDay <= 5) {
-                heft = Math.max(0, heft - 1);
+            if (isBaker && ofDay <= 5 && heft > 0) {
+                heft--;
             }
             // Behind the baker's least of 0: a smuggler adds to what the baker has.
             if (own == SMUGGLER && hour % 2 == 1) {
@@ -681,8 +681,12 @@ public final class RopesTieThemselves {
         }
 
         private void shift(int down, int rising) {
-            height[down] = Math.max(0, height[down] - 1);
-            height[rising] = Math.min(MOST_HEIGHT, height[rising] + 1);
+            if (height[down] > 0) {
+                height[down]--;
+            }
+            if (height[rising] < MOST_HEIGHT) {
+                height[rising]++;
+            }
         }
 
         void goHours(int n) {

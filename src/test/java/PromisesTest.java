@@ -4,91 +4,18 @@ import java.util.List;
 import java.util.function.LongSupplier;
 
 /** Each promise with answers reckoned by hand: ordinary ones, the edges, each refusal in its order. */
-public final class PromisesTest {
+public final class PromisesTest extends Checks {
     private static final long LONG_NO = 4000000000000000000L;
-    private static int wrong = 0;
-    private static int promise = 0;
 
-    private static void due(String call, long got, long want) {
-        if (got != want) {
-            wrong++;
-            System.out.println("promise " + promise + ": " + call + " answered " + got + ", due is " + want);
-        }
-    }
-
-    private static void letters(RopesTieThemselves x, String text) {
-        for (char c : text.toCharArray()) {
-            x.letter(c);
-        }
-    }
-
-    private static int port(RopesTieThemselves x, String text) {
-        letters(x, text);
-        return x.port();
-    }
-
-    private static RopesTieThemselves told(String text) {
-        RopesTieThemselves x = new RopesTieThemselves();
-        int statements = (int) text.chars().filter(c -> c == ';').count();
-        due("port of " + text, port(x, text), statements);
-        return x;
-    }
-
-    /** A port of more letters than can be told at once. */
-    private static RopesTieThemselves told(String text, String more) {
-        RopesTieThemselves x = told(text);
-        due("port of " + more, port(x, more), more.chars().filter(c -> c == ';').count());
-        return x;
-    }
-
-    private static int[] heights(RopesTieThemselves x) {
-        int[] all = new int[x.count(0)];
-        for (int i = 0; i < all.length; i++) {
-            all[i] = x.thing(i, 4);
-        }
-        return all;
-    }
-
-    /** All that can be seen without a change, but for how many refusals there were. */
-    private static List<Long> seen(RopesTieThemselves x) {
-        List<Long> all = new ArrayList<>();
-        for (int what = 0; what < 8; what++) {
-            all.add((long) x.count(what));
-        }
-        for (int i = 0; i < x.count(0); i++) {
-            for (int what = 0; what < 6; what++) {
-                all.add((long) x.thing(i, what));
-            }
-            // The row's own numbers show in what it tells of a thing.
-            all.add((long) x.whatIs(i, 0));
-        }
-        for (int i = 0; i < x.count(1); i++) {
-            all.add((long) x.rope(i, 0));
-            all.add((long) x.rope(i, 1));
-        }
-        return all;
-    }
-
-    private static List<Integer> refusals(RopesTieThemselves x) {
-        List<Integer> all = new ArrayList<>();
-        for (int what = 11; what <= 16; what++) {
-            all.add(x.count(what));
-        }
-        return all;
-    }
-
-    /** The call answers the refusal, it is counted, and nothing else has changed. */
+    /** The call answers the refusal, and it is counted; RefusalsTest looks whether all else stays. */
     private static void refused(RopesTieThemselves x, String call, LongSupplier made, int code) {
         refused(x, call, made, code, code);
     }
 
     private static void refused(RopesTieThemselves x, String call, LongSupplier made, int code, long answer) {
-        List<Long> before = seen(x);
-        List<Integer> counted = refusals(x);
+        int before = x.count(10 - code);
         due(call, made.getAsLong(), answer);
-        counted.set(-code - 1, counted.get(-code - 1) + 1);
-        due("refusals behind " + call, refusals(x).equals(counted) ? 1 : 0, 1);
-        due("all else behind " + call, seen(x).equals(before) ? 1 : 0, 1);
+        due("refusals behind " + call, x.count(10 - code), before + 1);
     }
 
     private static void refusedLong(RopesTieThemselves x, String call, LongSupplier made, int code) {
@@ -140,10 +67,7 @@ public final class PromisesTest {
         lots();
         imageAndOn();
         count();
-        System.out.println(wrong == 0 ? "all promises are kept" : wrong + " answers are not as due");
-        if (wrong != 0) {
-            System.exit(1);
-        }
+        end("all promises are kept");
     }
 
     private static void aNewObject() {
@@ -303,8 +227,8 @@ public final class PromisesTest {
     private static void heft(RopesTieThemselves x, int thing, int hour, int want) {
         x.on();
         due("heft of " + thing + " in hour " + hour, x.thingThen(thing, hour, 1), want);
-        for (int gone = 0; gone < hour; gone++) {
-            x.hours(1);
+        if (hour > 0) {
+            x.hours(hour);
         }
         due("heft of " + thing + " now, in hour " + hour, x.thing(thing, 5), want);
     }
@@ -1163,14 +1087,16 @@ public final class PromisesTest {
 
     private static void lots() {
         promise = 41;
-        RopesTieThemselves x = told("tt010;tt011;tt010;r01;r12;u005;");
         // Draws of the seed 0: 1013904223 and so on; each lot is made by hand of the class's own hours.
         for (int z : new int[] {0, 1, 7, -1, Integer.MIN_VALUE, Integer.MAX_VALUE, 123456789}) {
             for (int n : new int[] {1, 2, 20}) {
+                RopesTieThemselves x = told("tt010;tt011;tt010;r01;r12;u005;");
                 due("lots(" + n + ", " + z + ", 0)", x.lots(n, z, 0), lotsByHand(x, n, z, true));
                 due("lots(" + n + ", " + z + ", 1)", x.lots(n, z, 1), lotsByHand(x, n, z, false));
             }
         }
+        RopesTieThemselves x = told("tt010;tt011;tt010;r01;r12;u005;");
+        x.lots(20, 5, 0);
         due("it was in mind", x.count(4) + x.count(2), 0);
         due("no things", new RopesTieThemselves().lots(20, 1, 0), 0);
         refused(x, "lots(0, 0, 2)", () -> x.lots(0, 0, 2), -4);
