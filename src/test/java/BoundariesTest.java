@@ -731,6 +731,8 @@ public final class BoundariesTest extends Checks {
         due("of 2 and 3 the least", x.top(0), 2);
         due("itself", x.top(3), 3);
         due("without ropes", things(1).top(0), 0);
+        due("thing 0, of it and one alike", told("tt012;tt010;tt012;r21;r10;").top(1), 0);
+        due("thing 0, the greatest of all", told("tt013;tt010;tt012;r12;r20;").top(1), 0);
         x.weighs(3, 13);
         due("the greatest", x.top(0), 3);
         due("the last", x.top(2), 3);
