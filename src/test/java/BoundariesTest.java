@@ -52,6 +52,7 @@ public final class BoundariesTest extends Checks {
         lotsAndDraws();
         theImage();
         counts();
+        theLastCalls();
         end("all bounds are as told");
     }
 
@@ -1048,5 +1049,28 @@ public final class BoundariesTest extends Checks {
         due("all heights", full.count(3), 160);
         due("all stones", full.count(4), 72);
         due("all heft", full.count(5), 8 * 107);
+    }
+
+    /** "An object is used for at most 512 calls": the 512th is answered as the first is. */
+    private static void theLastCalls() {
+        promise = 44;
+        RopesTieThemselves refused = new RopesTieThemselves();
+        for (int call = 1; call <= 511; call++) {
+            due("call " + call, refused.rope(0, 0), -1);
+        }
+        due("the 512th, all the refusals", refused.count(11), 511);
+        promise = 43;
+        RopesTieThemselves turned = new RopesTieThemselves();
+        for (int call = 1; call <= 508; call += 4) {
+            due("call " + call, turned.image(), 0);
+            due("call " + (call + 1), turned.hours(60), 0);
+            due("call " + (call + 2), turned.on(), 0);
+            due("call " + (call + 3), turned.lots(20, call, 0), 0);
+        }
+        promise = 12;
+        due("the 509th", turned.hours(1), 0);
+        due("the 510th", turned.hours(60), 0);
+        due("the 511th", turned.hours(60), 0);
+        due("the 512th, the hour", turned.count(2), 121);
     }
 }

@@ -17,6 +17,12 @@ import java.util.regex.Pattern;
 public final class FaceTest {
     private static final Path SOURCE = Path.of("src/main/java/RopesTieThemselves.java");
     private static final Path DOCUMENT = Path.of("../shared/DOC.md");
+    private static final Set<Class<?>> CONSTANTS = Set.of(int.class, long.class, boolean.class, char.class, String.class);
+    /** What the class uses of LANGUAGE.md's rule 4; a use of more is looked up there first. */
+    private static final Set<String> LIBRARY = Set.of("System.arraycopy", "Math.max", "Math.min", "Math.abs",
+        "Integer.bitCount", "Integer.numberOfTrailingZeros");
+    private static final Set<String> OF_TEXTS = Set.of("length", "charAt", "isEmpty");
+    private static final int MOST_LINES = 60;
     private static int wrong = 0;
 
     private static void must(boolean so, String what) {
@@ -33,7 +39,11 @@ public final class FaceTest {
         methodsAreTheDocuments(face);
         constructorsAndFields(face);
         nestedClasses(face);
-        words(Files.readString(SOURCE));
+        String source = Files.readString(SOURCE);
+        words(source);
+        String code = source.replaceAll("(?s)/\\*.*?\\*/", "").replaceAll("//[^\n]*", "");
+        library(face, code);
+        lengths(code);
         System.out.println(wrong == 0 ? "the face is as told" : wrong + " things are not as told");
         if (wrong != 0) {
             System.exit(1);
@@ -77,13 +87,22 @@ public final class FaceTest {
             && Modifier.isPublic(constructors[0].getModifiers()), "constructors " + Arrays.toString(constructors));
         for (Field field : face.getDeclaredFields()) {
             must(Modifier.isPrivate(field.getModifiers()), "seen: " + field);
-            must(!Modifier.isStatic(field.getModifiers()) || Modifier.isFinal(field.getModifiers()), "static: " + field);
+        }
+    }
+
+    /** Nothing that one object leaves behind may be seen by another. */
+    private static void staticFields(Class<?> holder) {
+        for (Field field : holder.getDeclaredFields()) {
+            must(!Modifier.isStatic(field.getModifiers()) || Modifier.isFinal(field.getModifiers())
+                && CONSTANTS.contains(field.getType()), "static: " + field);
         }
     }
 
     private static void nestedClasses(Class<?> face) {
         must(face.getDeclaredClasses().length <= 12, "too many classes");
+        staticFields(face);
         for (Class<?> inside : face.getDeclaredClasses()) {
+            staticFields(inside);
             must(Modifier.isStatic(inside.getModifiers()) && !Modifier.isPublic(inside.getModifiers()), "class " + inside);
             must(inside.getDeclaredFields().length <= 20, "fields of " + inside);
         }
@@ -96,5 +115,37 @@ public final class FaceTest {
             must(!Pattern.compile(pattern).matcher(source).find(), "the file has '" + word + "'");
         }
         must(source.chars().allMatch(c -> c > 0 && c < 128), "a sign above 127");
+    }
+
+    private static void library(Class<?> face, String code) {
+        Set<String> classes = new TreeSet<>(Set.of(face.getSimpleName()));
+        Set<String> called = new TreeSet<>(OF_TEXTS);
+        for (Class<?> inside : face.getDeclaredClasses()) {
+            classes.add(inside.getSimpleName());
+            Arrays.stream(inside.getDeclaredMethods()).forEach(method -> called.add(method.getName()));
+        }
+        Matcher named = Pattern.compile("\\b([A-Z][a-z]\\w*)\\.(\\w+)").matcher(code);
+        while (named.find()) {
+            must(classes.contains(named.group(1)) || LIBRARY.contains(named.group()), "the library's " + named.group());
+        }
+        Matcher asked = Pattern.compile("(?<!\\b[A-Z]\\w{0,20})\\.(\\w+)\\(").matcher(code);
+        while (asked.find()) {
+            must(called.contains(asked.group(1)), "a call of " + asked.group(1));
+        }
+        Matcher made = Pattern.compile("\\bnew (\\w+)").matcher(code);
+        while (made.find()) {
+            must(classes.contains(made.group(1)) || made.group(1).equals("int"), "it makes " + made.group(1));
+        }
+    }
+
+    private static void lengths(String code) {
+        Matcher method = Pattern.compile("(?m)^( +)[\\w\\[\\] ]+\\([\\w\\[\\], ]*\\) \\{\n(.*\n)*?\\1\\}").matcher(code);
+        int found = 0;
+        while (method.find()) {
+            found++;
+            long lines = method.group().lines().count();
+            must(lines <= MOST_LINES, lines + " lines: " + method.group().lines().findFirst().orElse(""));
+        }
+        must(found > 100, "methods found in the file: " + found);
     }
 }

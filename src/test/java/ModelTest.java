@@ -15,11 +15,16 @@ public final class ModelTest {
     private final Random random;
     private final RopesTieThemselves real = new RopesTieThemselves();
     private final Model model = new Model();
+    /** Gets about every other call, too: what is done to one object is nothing to another. */
+    private final RopesTieThemselves bystander = new RopesTieThemselves();
+    private final Random forBystander;
     private final List<String> calls = new ArrayList<>();
     private boolean wrong = false;
 
     private ModelTest(long seed) {
         random = new Random(seed);
+        forBystander = new Random(-seed);
+        Checks.port(bystander, "tt010;ts512;tp711;r01;r12;r20;u009;u213;h03;");
     }
 
     private static Method[] methods() {
@@ -34,6 +39,9 @@ public final class ModelTest {
         long got = ((Number) method.invoke(real, args)).longValue();
         long want = ((Number) twin.invoke(model, args)).longValue();
         calls.add(method.getName() + Arrays.toString(args) + " = " + got);
+        if (calls.size() < CALLS - 80 && forBystander.nextBoolean()) {
+            method.invoke(bystander, args);
+        }
         if (got != want) {
             wrong = true;
             System.out.println(String.join("\n", calls));
